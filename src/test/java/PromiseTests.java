@@ -1,11 +1,5 @@
 /** One method a promise: ordinary inputs, the edges that the document names, and wrong inputs, worked out by hand. */
-public final class PromiseTests {
-    private static final int TRUTHS = 0, BYTES = 1, INTS = 2, LONGS = 3, FLOATS = 4, DOUBLES = 5;
-    private static final int BAD = -1, FULL = -2, NONE = -3;
-    private static final int GONE = -11, NO_ITEM = -12, BELOW_ZERO = -13, OTHER_LANE = -14, BY_ZERO = -15, OTHER_EXTENTS = -16;
-    private static final int MIN = Integer.MIN_VALUE, MAX = Integer.MAX_VALUE;
-    private static final double INFINITE = Double.POSITIVE_INFINITY, NO_NUMBER = Double.NaN;
-
+public final class PromiseTests extends Rows {
     private PromiseTests() {
     }
 
@@ -34,75 +28,6 @@ public final class PromiseTests {
         promise17();
         promise18();
         Due.end();
-    }
-
-    private static void due(String what, long got, long want) {
-        Due.is(what, got, want);
-    }
-
-    private static long d(double v) {
-        return Double.doubleToLongBits(v);
-    }
-
-    private static long f(double v) {
-        return Float.floatToIntBits((float) v);
-    }
-
-    /** A TENSOR of one EXTENT with VALUES. */
-    private static int row(SpreadRules x, int lane, long... values) {
-        int t = x.shaped(lane, values.length, NONE, NONE);
-        for (int n = 0; n < values.length; n++) {
-            x.item(t, n, values[n]);
-        }
-        return t;
-    }
-
-    private static int doubles(SpreadRules x, double... values) {
-        int t = x.shaped(DOUBLES, values.length, NONE, NONE);
-        for (int n = 0; n < values.length; n++) {
-            x.item(t, n, d(values[n]));
-        }
-        return t;
-    }
-
-    private static int floats(SpreadRules x, double... values) {
-        int t = x.shaped(FLOATS, values.length, NONE, NONE);
-        for (int n = 0; n < values.length; n++) {
-            x.item(t, n, f(values[n]));
-        }
-        return t;
-    }
-
-    private static void dueRow(String what, SpreadRules x, int t, int lane, long... values) {
-        due(what + ", LANE", x.of(t, 0), lane);
-        due(what + ", ITEMS", x.of(t, 2), values.length);
-        for (int n = 0; n < values.length; n++) {
-            due(what + ", ITEM " + n, x.bits(t, n, lane), values[n]);
-        }
-    }
-
-    private static void dueDoubles(String what, SpreadRules x, int t, double... values) {
-        long[] told = new long[values.length];
-        for (int n = 0; n < told.length; n++) {
-            told[n] = d(values[n]);
-        }
-        dueRow(what, x, t, DOUBLES, told);
-    }
-
-    private static void dueFloats(String what, SpreadRules x, int t, double... values) {
-        long[] told = new long[values.length];
-        for (int n = 0; n < told.length; n++) {
-            told[n] = f(values[n]);
-        }
-        dueRow(what, x, t, FLOATS, told);
-    }
-
-    private static SpreadRules full() {
-        SpreadRules x = new SpreadRules();
-        for (int t = 0; t < 16; t++) {
-            due("tensor " + t, x.tensor(t == 0 ? TRUTHS : INTS), t);
-        }
-        return x;
     }
 
     /** An ACT of whole VALUES of one LANE, all in one row. */
